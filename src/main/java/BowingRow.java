@@ -618,26 +618,27 @@ public final class BowingRow {
         }
 
         boolean takeSign(char sign) {
-            if (signHere() != sign) {
-                return fail(CANNOT_STAND);
+            boolean stands = kinds[at] == SIGN && values[at] == sign;
+            if (stands) {
+                at++;
+            } else {
+                fault = CANNOT_STAND;
+                faultPlace = places[at];
             }
-            goOn();
-            return true;
+            return stands;
         }
 
         /** The number here; NONE with its FAULT, if it is none such. */
         int takeNumber(int least, int most) {
-            if (kinds[at] != NUMBER) {
-                fail(CANNOT_STAND);
-                return NONE;
-            }
+            boolean stands = kinds[at] == NUMBER;
             int value = values[at];
-            if (value < least || value > most) {
-                fail(NO_SUCH_NUMBER);
-                return NONE;
+            if (stands && value >= least && value <= most) {
+                at++;
+                return value;
             }
-            goOn();
-            return value;
+            fault = stands ? NO_SUCH_NUMBER : CANNOT_STAND;
+            faultPlace = places[at];
+            return NONE;
         }
 
         /** Always false, so that a reader can answer with it. */

@@ -120,6 +120,13 @@ final class DayTest {
         Check.same("lapsed balance(0)", 0, x.balance(0));
         Check.same("lapsed book(0, 2)", 3, x.book(0, 2));
         Check.same("lapsed owed(0, 2)", 3, x.owed(0, 2));
+        // the counter is free from minute 2 on, but the endless call is of minute 100
+        BowingRow late = Check.with("person 0 0 0 1 9;person 0 0 0 1 9;person 100 0 0 1 9;person 100 0 0 1 9;"
+            + "way 0 4;way 2 4;way 3 4;", "lapse 100;");
+        call(late, 2, -1, 100, 2, 12, -1);
+        Check.same("balance(0) at minute 100 with lapse 100", 1, late.balance(0));
+        Check.law(late, "lapse 99;");
+        Check.same("balance(0) at minute 100 with lapse 99", 0, late.balance(0));
     }
 
     private static void times() {

@@ -189,6 +189,11 @@ final class WhatIfTest {
         struck(x, 6, 2);
         Check.law(x, "must 1=1;must 1=2;must 1=1;");
         struck(x, 4, 1);
+        // what the first must said is not said any more
+        Check.law(x, "must 1=2;");
+        struck(x, 0, 0);
+        Check.law(x, "must 1=1;");
+        struck(x, 1, 1);
         // the bows make the last one late: of two sets of one the least
         Check.law(x, "must older>age;bow 9;shut 20;");
         struck(x, 1, 1);
